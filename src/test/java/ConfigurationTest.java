@@ -102,6 +102,11 @@ public final class ConfigurationTest {
         CHECKS.due("24 characters", true, () -> x.sound(0));
         CHECKS.due("one more", false, () -> x.type('x'));
         CHECKS.due("24 characters still", true, () -> x.sound(0));
+        String[] ends = {"c0|T", "f00|", "T|f0", "T|(T", "c0&c", "c0&(", "c0&f"};
+        for (String end : ends) {
+            String text = "T|T|T|T|T|T|T|T|T|T|" + end;
+            CHECKS.due("sound " + text, end.equals("c0|T"), () -> isSound(text));
+        }
     }
 
     /** Relations 0 and 1 are of namespace 0, 2 is of namespace 1; the text is that of 1. */
@@ -217,7 +222,31 @@ public final class ConfigurationTest {
         CHECKS.due("barred f bars x", STATE, () -> accept("T-f10", 0, "T", 0));
         CHECKS.due("barred f without a ring", 2, () -> accept("T-f11", 0, "T", 0));
         CHECKS.due("itself", STATE, () -> accept("T-c0", 0, "T", 0));
+        CHECKS.due("the first of several needs", STATE, () -> accept("T-c1", 0, "c0|T|c1", 0));
         longRing();
+        ringsInAllOrders();
+    }
+
+    /** Relation a needs b, b needs c, and c bars a: wherever they stand, they are refused. */
+    private static void ringsInAllOrders() {
+        int[][] orders = {{0, 1, 2}, {0, 2, 1}, {1, 0, 2}, {1, 2, 0}, {2, 0, 1}, {2, 1, 0}};
+        for (int[] order : orders) {
+            CHECKS.due("ring of three", STATE, () -> acceptThree(order, "c", "c", "T-c"));
+            CHECKS.due("plain ring of three", 3, () -> acceptThree(order, "c", "c", "T|c"));
+            CHECKS.due("no ring of three", 3, () -> acceptThree(order, "T-c", "T-c", "T"));
+        }
+    }
+
+    private static Object acceptThree(int[] order, String... rules) {
+        String[] texts = new String[3];
+        for (int i = 0; i < 3; i++) {
+            texts[order[i]] = rules[i].equals("T") ? "T" : rules[i] + order[(i + 1) % 3];
+        }
+        RelationStore x = new RelationStore(0);
+        for (String text : texts) {
+            Checks.relation(x, 0, true, 0, 0, text);
+        }
+        return x.accept();
     }
 
     private static void longRing() {

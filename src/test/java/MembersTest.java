@@ -12,7 +12,10 @@ public final class MembersTest {
         throughObjects();
         leastSolution();
         levels();
+        barredLateStaysInNoRing();
         manyLevels();
+        soundLeavesTheRule();
+        versionsFarApart();
         longChain();
         wrongNames();
         tooOld();
@@ -146,6 +149,28 @@ public final class MembersTest {
         CHECKS.due("another object", 0, () -> x.expand(2, 1, 2));
         CHECKS.due("lookup through objects", 1, () -> x.lookup(2, 3, 4));
         CHECKS.due("tuples of the relation itself", 129, () -> x.expand(2, 0, 0));
+        throughManyObjects();
+    }
+
+    private static void throughManyObjects() {
+        RelationStore x = new RelationStore(0);
+        x.relation(2, true, 0, 0);
+        Checks.relation(x, 1, true, 0, 0, "T|f20");
+        x.relation(1, false, 4, 0);
+        x.accept();
+        for (int i = 0; i < 4; i++) {
+            Checks.comes(x, 8 + i, 0, 0, 2 * i, 0);
+        }
+        Checks.comes(x, 6, 1, 0, 7, 0);
+        x.commit(-1);
+        for (int i = 0; i < 4; i++) {
+            Checks.comes(x, 6, 2, 1, 8 + i, 0);
+        }
+        x.commit(-1);
+        CHECKS.due("four objects", 0b11010101, () -> x.expand(2, 6, 1));
+        CHECKS.due("no object", 0, () -> x.expand(2, 4, 1));
+        CHECKS.due("objects are no members", 0, () -> x.expand(2, 6, 2));
+        CHECKS.due("check through objects", true, () -> x.check(2, 6, 1, 0));
     }
 
     private static void leastSolution() {
@@ -193,6 +218,71 @@ public final class MembersTest {
         CHECKS.due("usersets of what is left", 48, () -> x.expand(2, 1, 0));
         CHECKS.due("barred at the end", 32, () -> x.expand(2, 3, 0));
         CHECKS.due("the older version", 0, () -> x.expand(1, 0, 0));
+    }
+
+    /** Were 0 worked out before 3, its user would stay in the ring of 1 and 2. */
+    private static void barredLateStaysInNoRing() {
+        RelationStore x = new RelationStore(0);
+        Checks.relation(x, 0, true, 0, 0, "T-c3");
+        Checks.relation(x, 0, true, 0, 0, "c0|c2");
+        Checks.relation(x, 0, true, 0, 0, "c1");
+        Checks.relation(x, 0, true, 0, 16, "T");
+        Checks.relation(x, 0, true, 0, 0, "T");
+        x.accept();
+        Checks.comes(x, 2, 0, 0, 6, 0);
+        Checks.comes(x, 2, 0, 0, 5, 0);
+        Checks.comes(x, 2, 3, 2, 3, 4);
+        Checks.comes(x, 3, 4, 0, 5, 0);
+        x.commit(-1);
+        for (int r = 0; r < 3; r++) {
+            int relation = r;
+            CHECKS.due("relation " + r, 64, () -> x.expand(1, 2, relation));
+        }
+        CHECKS.due("what is barred", 32, () -> x.expand(1, 2, 3));
+    }
+
+    private static void soundLeavesTheRule() {
+        RelationStore x = new RelationStore(0);
+        x.relation(0, true, 0, 0);
+        x.relation(0, true, 0, 0);
+        for (char c : "c0-(T|c0)|T".toCharArray()) {
+            x.type(c);
+            x.sound(1);
+        }
+        x.accept();
+        Checks.comes(x, 0, 0, 0, 1, 0);
+        Checks.comes(x, 0, 1, 0, 3, 0);
+        x.commit(-1);
+        CHECKS.due("a rule that was asked for often", 8, () -> x.expand(1, 0, 1));
+        CHECKS.due("sound when accepted", true, () -> x.sound(1));
+        Checks.comes(x, 0, 1, 0, 4, 0);
+        x.commit(-1);
+        CHECKS.due("the rule behind that", 24, () -> x.expand(2, 0, 1));
+    }
+
+    /** Nothing of an old version may stay where a new one, eight or sixteen later, is held. */
+    private static void versionsFarApart() {
+        RelationStore x = new RelationStore(7);
+        Checks.relation(x, 0, true, 0, 1, "T");
+        Checks.relation(x, 0, true, 0, 0, "c0|c2");
+        Checks.relation(x, 0, true, 0, 0, "c1");
+        x.accept();
+        Checks.comes(x, 0, 0, 0, 2, 0);
+        Checks.comes(x, 0, 0, 2, 1, 0);
+        Checks.comes(x, 1, 0, 2, 0, 0);
+        x.commit(-1);
+        CHECKS.due("version 1", 4, () -> x.expand(1, 0, 2));
+        x.change(false, 0, 0, 0, 2, 0);
+        x.commit(-1);
+        for (int v = 3; v <= 17; v++) {
+            int token = v;
+            Checks.comes(x, 3, 0, 0, v % 8, 0);
+            CHECKS.due("commit " + v, v, () -> x.commit(-1));
+            CHECKS.due("ring in version " + v, 0, () -> x.expand(token, 0, 2));
+            CHECKS.due("usersets in version " + v, 0, () -> x.expand(token, 1, 0));
+            CHECKS.due("users in version " + v, Math.min(8, v - 2), () -> Integer.bitCount(x.expand(token, 3, 1)));
+        }
+        CHECKS.due("an older one again", 8, () -> Integer.bitCount(x.expand(10, 3, 1)));
     }
 
     private static void manyLevels() {

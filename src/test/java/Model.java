@@ -380,9 +380,14 @@ final class Model {
         if (tree.first != null) {
             Set<Integer> found = new TreeSet<>(value(version, own, tree.first, known));
             Set<Integer> second = value(version, own, tree.second, known);
-            boolean changed = tree.kind == '&' ? found.retainAll(second)
-                    : tree.kind == '|' ? found.addAll(second) : found.removeAll(second);
-            return changed ? found : found;
+            if (tree.kind == '&') {
+                found.retainAll(second);
+            } else if (tree.kind == '|') {
+                found.addAll(second);
+            } else {
+                found.removeAll(second);
+            }
+            return found;
         }
         if (tree.kind == 'c') {
             return known.get(new Pair(own.object, tree.x));
