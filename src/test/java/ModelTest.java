@@ -3,14 +3,16 @@ import java.util.TreeMap;
 
 /** Runs of mixed calls, the same ones every time; each answer is compared with the model's. */
 public final class ModelTest {
-    private static final int RUNS = 5000;
-    private static final int CALLS = 512;
+    private static final int RUNS = 8000;
+    // An object is promised for 512 calls; one turn of a run makes at most some thirty of them.
+    private static final int CALLS = 512 - 40;
 
     private final Random random;
     private final RelationStore store;
     private final Model model;
     private final int[] planned;
     private final boolean free;
+    private int made = 0;
     private int relations = 0;
     private boolean refused = false;
     private boolean accepted = false;
@@ -66,8 +68,8 @@ public final class ModelTest {
     private void run(int run) {
         boolean eager = random.nextInt(10) != 0;
         plan();
-        for (int call = 0; call < CALLS && wrong < 20; call++) {
-            String where = "run " + run + ", call " + call + ": ";
+        while (made < CALLS && wrong < 20) {
+            String where = "run " + run + ", call " + made + ": ";
             if (!accepted && eager && !refused) {
                 tell(where);
             } else if (accepted && random.nextInt(60) != 0) {
@@ -75,7 +77,7 @@ public final class ModelTest {
             } else {
                 anything(where);
             }
-            if (refused && call > 60) {
+            if (refused && made > 200) {
                 return;
             }
         }
@@ -91,6 +93,7 @@ public final class ModelTest {
     }
 
     private void compare(String where, String name, Checks.Call got, Checks.Call want, int... arguments) {
+        made++;
         Object answer = Checks.answer(got);
         Object due = Checks.answer(want);
         if (!due.equals(answer)) {
@@ -230,6 +233,7 @@ public final class ModelTest {
         if (random.nextInt(4) == 0) {
             store.crash();
             model.crash();
+            made++;
         }
         latestAndRecords(where);
     }
