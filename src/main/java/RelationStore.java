@@ -443,7 +443,7 @@ public final class RelationStore {
 
         boolean allAreRules() {
             for (int r = 0; r < count; r++) {
-                if (!isRule(r)) {
+                if (!reader.reads(relations, count, relations[r])) {
                     return false;
                 }
             }

@@ -7,6 +7,7 @@ final class Checks {
 
     private int wrong = 0;
     private int made = 0;
+    private String sentence = "";
 
     /** What a call answers; the exception's class, if it throws. */
     static Object answer(Call call) {
@@ -17,12 +18,17 @@ final class Checks {
         }
     }
 
+    /** The document's sentence that the answers which follow are due by. */
+    void sentence(String words) {
+        sentence = "[" + words + "] ";
+    }
+
     void due(String what, Object want, Call call) {
         Object got = answer(call);
         made++;
         if (!want.equals(got)) {
             wrong++;
-            System.out.println(what + " answered " + got + ", due is " + want);
+            System.out.println(sentence + what + " answered " + got + ", due is " + want);
         }
     }
 

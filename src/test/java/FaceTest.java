@@ -11,6 +11,7 @@ public final class FaceTest {
 
     public static void main(String[] args) {
         publicMethods();
+        exceptions();
         constructors();
         nothingElse();
         readmeExample();
@@ -33,6 +34,24 @@ public final class FaceTest {
             }
         }
         CHECKS.due("methods", want, () -> got);
+    }
+
+    private static void exceptions() {
+        for (Method method : RelationStore.class.getDeclaredMethods()) {
+            if (Modifier.isPublic(method.getModifiers())) {
+                String want = switch (method.getName()) {
+                    case "relation", "type", "sound", "crash", "latest", "records" -> "";
+                    case "accept", "change" -> "UnsupportedOperation IllegalArgument IllegalState ";
+                    case "commit" -> "IllegalState ";
+                    default -> "IllegalArgument IllegalState ";
+                };
+                StringBuilder got = new StringBuilder();
+                for (Class<?> exception : method.getExceptionTypes()) {
+                    got.append(exception.getSimpleName().replace("Exception", " "));
+                }
+                CHECKS.due("exceptions of " + method.getName(), want, () -> got.toString());
+            }
+        }
     }
 
     private static void constructors() {
