@@ -234,6 +234,28 @@ public final class RulesEdgesTest {
         z.relation(0, true, 0, 0);
         Checks.relation(z, 0, true, 0, 0, "()");
         CHECKS.due("empty brackets are no rule", false, () -> z.sound(1));
+        emptyNoMore();
+    }
+
+    /** That an empty text was asked for must not be seen when it is one no more. */
+    private static void emptyNoMore() {
+        RelationStore x = new RelationStore(0);
+        Checks.relation(x, 0, true, 0, 0, "T-c1");
+        x.relation(0, true, 0, 1);
+        CHECKS.due("empty yet", true, () -> x.sound(1));
+        CHECKS.due("T needs the usersets", STATE, () -> x.accept());
+        Checks.typeAll(x, "c1");
+        CHECKS.due("no T, so no usersets are needed", 2, () -> x.accept());
+        RelationStore z = new RelationStore(0);
+        z.relation(0, true, 0, 1);
+        z.relation(0, true, 0, 1);
+        CHECKS.due("empty yet, and the latest", true, () -> z.sound(1));
+        Checks.typeAll(z, "c0");
+        CHECKS.due("accept", 2, () -> z.accept());
+        z.change(true, 0, 1, 0, 5, 0);
+        z.change(true, 0, 0, 0, 6, 0);
+        z.commit(-1);
+        CHECKS.due("members by the text alone", 64, () -> z.expand(1, 0, 1));
     }
 
     /** Relations 0 and 1 of object 0 have the users of the masks; the rule is that of relation 2. */
