@@ -14,7 +14,6 @@ public final class FaceTest {
         exceptions();
         constructors();
         nothingElse();
-        readmeExample();
         CHECKS.end();
     }
 
@@ -79,21 +78,5 @@ public final class FaceTest {
                 CHECKS.due(method + " has a name of its own", false, () -> face.contains(method.getName()));
             }
         }
-    }
-
-    private static void readmeExample() {
-        RelationStore store = new RelationStore(3);
-        int group = store.relation(0, true, 0, 1);
-        int reader = store.relation(1, true, 0, 1);
-        store.relation(1, true, 0, 0);
-        int allowed = Checks.relation(store, 1, true, 0, 0, "c1-c2");
-        store.accept();
-        Checks.comes(store, 0, group, 0, 5, 0);
-        Checks.comes(store, 4, reader, 2, 0, group);
-        int token = store.commit(-1);
-        CHECKS.due("token", 1, () -> token);
-        CHECKS.due("check", true, () -> store.check(token, 4, allowed, 5));
-        CHECKS.due("expand", 32, () -> store.expand(token, 4, allowed));
-        CHECKS.due("lookup", 1, () -> store.lookup(token, allowed, 5));
     }
 }

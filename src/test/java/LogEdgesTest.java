@@ -334,6 +334,29 @@ public final class LogEdgesTest {
         CHECKS.due("accept", 1, () -> fresh.accept());
         fresh.crash();
         CHECKS.due("it stays accepted", UnsupportedOperationException.class, () -> fresh.accept());
+        crashesInCommits();
+    }
+
+    /** The batch and the versions are all that the sentence names, so nothing else is lost. */
+    private static void crashesInCommits() {
+        for (int most = 0; most <= 2; most++) {
+            int written = most;
+            RelationStore x = new RelationStore(0);
+            x.relation(0, true, 0, 0);
+            Checks.relation(x, 0, true, 0, 0, "T-c0");
+            x.accept();
+            Checks.comes(x, 0, 1, 0, 3, 0);
+            CHECKS.due("commit cut at " + most, most == 2 ? 1 : -1, () -> x.commit(written));
+            CHECKS.due("it stays accepted", UnsupportedOperationException.class, () -> x.accept());
+            CHECKS.due("no relation more", -1, () -> x.relation(0, true, 0, 0));
+            CHECKS.due("no character more", false, () -> x.type('T'));
+            CHECKS.due("the text is a rule still", true, () -> x.sound(1));
+            Checks.comes(x, 0, 0, 0, 2, 0);
+            Checks.comes(x, 0, 1, 0, 2, 0);
+            Checks.comes(x, 0, 1, 0, 4, 0);
+            int token = x.commit(-1);
+            CHECKS.due("the rule is as it was", most == 2 ? 24 : 16, () -> x.expand(token, 0, 1));
+        }
     }
 
     private static void versionZero() {

@@ -14,6 +14,7 @@ public final class PromiseEdgesTest {
         relationNumbers();
         typeRefused();
         typeGoesToTheLatest();
+        typeOfAnyCharacter();
         soundOfNoRelation();
         soundAsTheRelationsAreNow();
         acceptRefused();
@@ -143,6 +144,25 @@ public final class PromiseEdgesTest {
             x.type('x');
         }
         CHECKS.due("the ninth is full", false, () -> x.type('T'));
+    }
+
+    /** "and so is anything else": a character of no rule is appended too, and is then part of the text. */
+    private static void typeOfAnyCharacter() {
+        CHECKS.sentence("Appends a character to the text of the latest relation");
+        char[] odd = {0, ' ', '\n', 'x', 127, 128, 255, 256, '\u0154', '\ud800', '\uffff'};
+        for (char c : odd) {
+            RelationStore x = new RelationStore(0);
+            x.relation(0, true, 0, 0);
+            CHECKS.due("character " + (int) c, true, () -> x.type(c));
+            CHECKS.due("the text with it", false, () -> x.sound(0));
+            for (int i = 2; i <= 24; i++) {
+                CHECKS.due("character " + (int) c + " as number " + i, true, () -> x.type(c));
+            }
+            CHECKS.due("character " + (int) c + " as number 25", false, () -> x.type(c));
+            CHECKS.due("accept", ARGUMENT, () -> x.accept());
+            CHECKS.due("the texts of others are their own", 1, () -> x.relation(0, true, 0, 0));
+            CHECKS.due("the empty one", true, () -> x.sound(1));
+        }
     }
 
     private static void soundOfNoRelation() {
